@@ -310,33 +310,22 @@ public final class MinimalTables {
     }
 
     public int states(int kind) {
-        Automaton automaton = automatonOf(kind);
-        return automaton == null ? NONE : automaton.states;
+        return isThere(kind) ? automata[kind].states : NONE;
     }
 
-    /** Null: there is none. */
-    private Automaton automatonOf(int kind) {
+    /** Whether there is such an AUTOMATON; it is made, if need be. */
+    private boolean isThere(int kind) {
         if (grammar.rules == 0 || kind < 0 || kind >= KINDS) {
-            return null;
+            return false;
         }
-        Automaton automaton = automata[kind];
-        if (automaton.stale) {
-            builder.build(automaton);
+        if (automata[kind].stale) {
+            builder.build(automata[kind]);
         }
-        return automaton.there ? automaton : null;
+        return automata[kind].there;
     }
 
-    /** Null: there is no such AUTOMATON or STATE. */
-    private Automaton automatonWith(int kind, int state) {
-        Automaton automaton = automatonOf(kind);
-        return automaton == null || state < 0 || state >= automaton.states ? null : automaton;
-    }
-
-    /** Null: there is no such AUTOMATON. */
+    /** Of an AUTOMATON that is there. */
     private Actions actionsOf(int kind) {
-        if (automatonOf(kind) == null) {
-            return null;
-        }
         if (actions[kind].stale) {
             actions[kind].fill();
         }
@@ -344,26 +333,25 @@ public final class MinimalTables {
     }
 
     public int look(int kind, int state, int rule, int dot, boolean closed) {
-        Automaton automaton = automatonWith(kind, state);
-        if (automaton == null || rule < 0 || rule > grammar.rules) {
+        if (!isThere(kind) || !automata[kind].hasState(state) || rule < 0 || rule > grammar.rules) {
             return NONE;
         }
         if (dot < 0 || dot > grammar.length[rule]) {
             return NONE;
         }
-        int look = automaton.kernelOf(state).lookOf(rule * DOTS + dot);
+        int look = automata[kind].kernelOf(state).lookOf(rule * DOTS + dot);
         if (look == 0 && closed && dot == 0) {
-            look = automaton.openLook(state, rule);
+            look = automata[kind].openLook(state, rule);
         }
         return look;
     }
 
     public int state(int kind, int state, int what) {
-        Automaton automaton = automatonWith(kind, state);
-        Actions table = actionsOf(kind);
-        if (automaton == null || table == null) {
+        if (!isThere(kind) || !automata[kind].hasState(state)) {
             return NONE;
         }
+        Automaton automaton = automata[kind];
+        Actions table = actionsOf(kind);
         switch (what) {
             case 0:
                 return automaton.kernelOf(state).size;
@@ -383,51 +371,49 @@ public final class MinimalTables {
     }
 
     public int goesTo(int kind, int state, int letter) {
-        Automaton automaton = automatonWith(kind, state);
-        if (automaton == null) {
+        if (!isThere(kind) || !automata[kind].hasState(state)) {
             return NONE;
         }
         if (letter >= 0 && letter < grammar.signs) {
-            return automaton.goal(state, letter);
+            return automata[kind].goal(state, letter);
         }
         if (letter >= NAME_CODE && isName(letter - NAME_CODE)) {
-            return automaton.goal(state, FIRST_NAME + letter - NAME_CODE);
+            return automata[kind].goal(state, FIRST_NAME + letter - NAME_CODE);
         }
         return NONE;
     }
 
     public int action(int kind, int state, int sign, boolean defaults) {
-        if (automatonWith(kind, state) == null || !isEnding(sign)) {
+        if (!isThere(kind) || !automata[kind].hasState(state) || !isEnding(sign)) {
             return HIDDEN;
         }
-        Actions table = actionsOf(kind);
-        return table == null ? HIDDEN : table.told(state, sign, defaults);
+        return actionsOf(kind).told(state, sign, defaults);
     }
 
     public int bridge(int kind, int state, int name, int sign) {
-        if (automatonWith(kind, state) == null || !isName(name) || !isEnding(sign)) {
+        if (!isThere(kind) || !automata[kind].hasState(state) || !isName(name) || !isEnding(sign)) {
             return NONE;
         }
-        Actions table = actionsOf(kind);
-        return table == null ? NONE : table.across(state, name, sign);
+        return actionsOf(kind).across(state, name, sign);
     }
 
     public int counts(int kind, int what) {
-        Actions table = actionsOf(kind);
-        if (table == null) {
+        if (!isThere(kind)) {
             return NONE;
         }
+        Automaton automaton = automata[kind];
+        Actions table = actionsOf(kind);
         switch (what) {
             case 0:
                 return table.conflictsInAll();
             case 1:
                 return table.statesInConflict();
             case 2:
-                return table.automaton.splitCores();
+                return automaton.splitCores();
             case 3:
-                return table.automaton.mostOfOneCore();
+                return automaton.mostOfOneCore();
             case 4:
-                return table.automaton.itemsOfKernels();
+                return automaton.itemsOfKernels();
             case 5:
                 return table.actionsInAll();
             case 6:
@@ -438,15 +424,17 @@ public final class MinimalTables {
     }
 
     public int path(int kind, int state, int i) {
-        Automaton automaton = automatonWith(kind, state);
-        if (automaton == null || i < 0 || i >= automaton.pathLength(state)) {
+        if (!isThere(kind) || !automata[kind].hasState(state)) {
             return NONE;
         }
-        return Grammar.codeOf(automaton.pathLetter(state, i));
+        if (i < 0 || i >= automata[kind].pathLength(state)) {
+            return NONE;
+        }
+        return Grammar.codeOf(automata[kind].pathLetter(state, i));
     }
 
     public int reads(int kind, int sentence, int mode, int what) {
-        if (!readsSentence(kind, sentence, mode)) {
+        if (!isThere(kind) || !readsSentence(kind, sentence, mode)) {
             return NONE;
         }
         switch (what) {
@@ -463,39 +451,35 @@ public final class MinimalTables {
         }
     }
 
-    /** Whether there are such ones; if so, the reading is of that SENTENCE then. */
+    /** Whether there are such ones; if so, the reading is of that SENTENCE then. The AUTOMATON is there. */
     private boolean readsSentence(int kind, int sentence, int mode) {
         if (!isSentence(sentence) || mode < 0 || mode >= MODES) {
-            return false;
-        }
-        Actions table = actionsOf(kind);
-        if (table == null) {
             return false;
         }
         reading.length = 0;
         for (int i = 0; i < sentences.length[sentence]; i++) {
             reading.put(grammar.signNumber[sentences.letterAt(sentence, i)]);
         }
-        reading.run(table, mode);
+        reading.run(actionsOf(kind), mode);
         return true;
     }
 
     public int reduced(int kind, int sentence, int mode, int i) {
-        if (!readsSentence(kind, sentence, mode) || i < 0 || i >= reading.done) {
+        if (!isThere(kind) || !readsSentence(kind, sentence, mode) || i < 0 || i >= reading.done) {
             return NONE;
         }
         return reading.rules[i];
     }
 
     public int expects(int kind, int sentence) {
-        if (!readsSentence(kind, sentence, BARE) || reading.ends != ERRS) {
+        if (!isThere(kind) || !readsSentence(kind, sentence, BARE) || reading.ends != ERRS) {
             return NONE;
         }
         return reading.expected();
     }
 
     public int mends(int kind, int sentence) {
-        if (!readsSentence(kind, sentence, BARE)) {
+        if (!isThere(kind) || !readsSentence(kind, sentence, BARE)) {
             return NONE;
         }
         if (reading.ends == WELL) {
@@ -504,7 +488,7 @@ public final class MinimalTables {
         // The same signs up to the one it failed at fail alike, so no change behind that one mends.
         int last = reading.read;
         for (int place = 0; place <= last; place++) {
-            int change = mendAt(actions[kind], sentence, place);
+            int change = mendAt(actionsOf(kind), sentence, place);
             if (change != NONE) {
                 return place * PLACE + change;
             }
@@ -551,7 +535,7 @@ public final class MinimalTables {
     }
 
     public int tree(int kind, int sentence, int i, int what) {
-        if (!readsSentence(kind, sentence, BARE) || i < 0 || i >= reading.done) {
+        if (!isThere(kind) || !readsSentence(kind, sentence, BARE) || i < 0 || i >= reading.done) {
             return NONE;
         }
         switch (what) {
@@ -571,13 +555,11 @@ public final class MinimalTables {
             return NONE;
         }
         int sorts = facts.rulesAreSelected() ? 1 : 0;
-        Actions joined = actionsOf(JOINED);
-        if (joined != null && joined.followsSettle()) {
+        if (isThere(JOINED) && actionsOf(JOINED).followsSettle()) {
             sorts |= 2;
         }
         for (int kind = 0; kind < KINDS; kind++) {
-            Actions table = actionsOf(kind);
-            if (table != null && table.statesInConflict() == 0) {
+            if (isThere(kind) && actionsOf(kind).statesInConflict() == 0) {
                 sorts |= 16 >> kind;
             }
         }
@@ -585,13 +567,11 @@ public final class MinimalTables {
     }
 
     public int same(int one, int other, int m) {
-        Actions first = actionsOf(one);
-        Actions second = actionsOf(other);
-        if (first == null || second == null || m < 0 || m > SAME_MOST) {
+        if (!isThere(one) || !isThere(other) || m < 0 || m > SAME_MOST) {
             return NONE;
         }
         for (int length = 0; length <= m; length++) {
-            int found = firstUnlike(first, second, length);
+            int found = firstUnlike(actionsOf(one), actionsOf(other), length);
             if (found != NONE) {
                 return found;
             }
@@ -811,7 +791,7 @@ public final class MinimalTables {
         }
 
         boolean isUnit(int rule) {
-            return length[rule] == 1 && letterAt(rule, 0) >= FIRST_NAME;
+            return length[rule] == 1 && letters[rule * LETTERS_MOST] >= FIRST_NAME;
         }
 
         /** NONE: the DOT stands behind all letters. */
@@ -1000,7 +980,7 @@ public final class MinimalTables {
         }
 
         private boolean isEmptyLetter(int letter) {
-            return letter >= FIRST_NAME && isEmptyName(letter - FIRST_NAME);
+            return letter >= FIRST_NAME && (empty >> letter - FIRST_NAME & 1) != 0;
         }
 
         private void findEmpty() {
@@ -1261,21 +1241,20 @@ public final class MinimalTables {
         }
 
         boolean hasCoreOf(Kernel other) {
-            return size == other.size && areAlike(items, other.items);
+            boolean alike = size == other.size;
+            for (int i = 0; alike && i < size; i++) {
+                alike = items[i] == other.items[i];
+            }
+            return alike;
         }
 
         /** They have the same CORE. */
         boolean hasLooksOf(Kernel other) {
-            return areAlike(looks, other.looks);
-        }
-
-        private boolean areAlike(int[] one, int[] other) {
-            for (int i = 0; i < size; i++) {
-                if (one[i] != other[i]) {
-                    return false;
-                }
+            boolean alike = true;
+            for (int i = 0; alike && i < size; i++) {
+                alike = looks[i] == other.looks[i];
             }
-            return true;
+            return alike;
         }
 
         /** WEAKLY COMPATIBLE; they have the same CORE. */
@@ -1343,9 +1322,8 @@ public final class MinimalTables {
             this.facts = facts;
         }
 
-        /** A new slot with that KERNEL; there is room for it. */
-        int add(Kernel kernel) {
-            int core = slotWithCore(kernel);
+        /** A new slot with that KERNEL, whose CORE is first in that slot (NONE: in none); there is room for it. */
+        int add(Kernel kernel, int core) {
             int slot = slots;
             slots++;
             kernelIn(slot).copy(kernel);
@@ -1361,7 +1339,8 @@ public final class MinimalTables {
             return kernels[slot];
         }
 
-        private int slotWithCore(Kernel kernel) {
+        /** The first one; NONE: none. */
+        int slotWithCore(Kernel kernel) {
             for (int slot = 0; slot < slots; slot++) {
                 if (cores[slot] == slot && kernelIn(slot).hasCoreOf(kernel)) {
                     return slot;
@@ -1370,9 +1349,11 @@ public final class MinimalTables {
             return NONE;
         }
 
-        /** The slot that does for that NEXT; before: the one it went to up to now, or NONE. NONE: none does. */
-        int slotFor(Kernel next, int before) {
-            int core = slotWithCore(next);
+        /**
+         * The slot that does for that NEXT, of those of its CORE, which is first in that slot (NONE: in none).
+         * Before: the one it went to up to now, or NONE. NONE: none does.
+         */
+        int slotFor(Kernel next, int core, int before) {
             if (core == NONE || kind == JOINED) {
                 return core;
             }
@@ -1380,15 +1361,12 @@ public final class MinimalTables {
                 return before;
             }
             for (int slot = core; slot < slots; slot++) {
-                if (cores[slot] == core && does(kernelIn(slot), next)) {
+                Kernel kernel = kernelIn(slot);
+                if (cores[slot] == core && (kind == PLAIN ? kernel.hasLooksOf(next) : kernel.isCompatible(next))) {
                     return slot;
                 }
             }
             return NONE;
-        }
-
-        private boolean does(Kernel kernel, Kernel next) {
-            return kind == PLAIN ? kernel.hasLooksOf(next) : kernel.isCompatible(next);
         }
 
         int goalOf(int slot, int letter) {
@@ -1461,6 +1439,10 @@ public final class MinimalTables {
             states++;
         }
 
+        boolean hasState(int state) {
+            return state >= 0 && state < states;
+        }
+
         Kernel kernelOf(int state) {
             return kernelIn(slotOf[state]);
         }
@@ -1471,7 +1453,7 @@ public final class MinimalTables {
 
         /** The STATE it GOES TO; NONE: nowhere. */
         int goal(int state, int letter) {
-            int slot = goalOf(slotOf[state], letter);
+            int slot = goals[slotOf[state] * LETTERS + letter];
             return slot == NONE ? NONE : numberOf[slot];
         }
 
@@ -1571,7 +1553,7 @@ public final class MinimalTables {
             waiting = 0;
             next.size = 0;
             next.put(grammar.rules * DOTS, grammar.endBit());
-            enqueue(automaton.add(next));
+            enqueue(automaton.add(next, NONE));
             for (int turn = 0; automaton.there && waiting > 0 && turn < TURNS_MOST; turn++) {
                 expand(automaton, dequeue());
             }
@@ -1625,13 +1607,14 @@ public final class MinimalTables {
         }
 
         private void link(Automaton automaton, int slot, int letter) {
-            int goal = automaton.slotFor(next, automaton.goalOf(slot, letter));
+            int core = automaton.slotWithCore(next);
+            int goal = automaton.slotFor(next, core, automaton.goalOf(slot, letter));
             if (goal == NONE && automaton.slots == STATES_MOST) {
                 automaton.there = false;
                 return;
             }
             if (goal == NONE) {
-                goal = automaton.add(next);
+                goal = automaton.add(next, core);
                 enqueue(goal);
             } else if (automaton.kernelIn(goal).join(next)) {
                 enqueue(goal);
@@ -1909,19 +1892,14 @@ public final class MinimalTables {
             if (depth == ROW_MOST) {
                 return LOST;
             }
-            int goal = goalBehind(row[depth - 1], grammar.left[rule], next);
+            int from = row[depth - 1];
+            int name = grammar.left[rule];
+            int goal = mode == BRIDGED ? table.across(from, name, next) : table.automaton.goal(from, FIRST_NAME + name);
             if (goal == NONE) {
                 return ERRS;
             }
             push(goal, size, highest + 1);
             return REDUCES;
-        }
-
-        private int goalBehind(int state, int name, int next) {
-            if (mode == BRIDGED) {
-                return table.across(state, name, next);
-            }
-            return table.automaton.goal(state, FIRST_NAME + name);
         }
 
         private void note(int rule, int size, int height) {
