@@ -364,7 +364,7 @@ public final class MinimalTables {
             case 4:
                 return table.conflicts[state];
             case 5:
-                return automaton.pathLength(state);
+                return automaton.pathLength[state];
             default:
                 return NONE;
         }
@@ -427,7 +427,7 @@ public final class MinimalTables {
         if (!isThere(kind) || !automata[kind].hasState(state)) {
             return NONE;
         }
-        if (i < 0 || i >= automata[kind].pathLength(state)) {
+        if (i < 0 || i >= automata[kind].pathLength[state]) {
             return NONE;
         }
         return Grammar.codeOf(automata[kind].pathLetter(state, i));
@@ -1312,8 +1312,10 @@ public final class MinimalTables {
         int states;
         private final int[] slotOf = new int[STATES_MOST];
         private final int[] numberOf = new int[STATES_MOST];
+        /** The last step of the PATH, and how many letters it has: a STATE is first come to by its PATH. */
         private final int[] cameFrom = new int[STATES_MOST];
         private final int[] cameBy = new int[STATES_MOST];
+        final int[] pathLength = new int[STATES_MOST];
         private final int[] sharing = new int[STATES_MOST];
 
         Automaton(int kind, Grammar grammar, Facts facts) {
@@ -1421,7 +1423,7 @@ public final class MinimalTables {
             Arrays.fill(numberOf, NONE);
             states = 0;
             addNumber(0, NONE, NONE);
-            for (int state = 0; state < states; state++) {
+            for (int state = 0; state < states && state < STATES_MOST; state++) {
                 for (int letter = 0; letter < LETTERS; letter++) {
                     int goal = goalOf(slotOf[state], letter);
                     if (goal != NONE && numberOf[goal] == NONE) {
@@ -1436,6 +1438,7 @@ public final class MinimalTables {
             slotOf[states] = slot;
             cameFrom[states] = from;
             cameBy[states] = by;
+            pathLength[states] = from == NONE ? 0 : pathLength[from] + 1;
             states++;
         }
 
@@ -1478,18 +1481,10 @@ public final class MinimalTables {
             return size;
         }
 
-        /** A STATE is numbered from the least PATH to it, so the way back is the PATH, and it falls. */
-        int pathLength(int state) {
-            int length = 0;
-            for (int at = state; at > 0; at = cameFrom[at]) {
-                length++;
-            }
-            return length;
-        }
-
+        /** The PATH has more than i letters. */
         int pathLetter(int state, int i) {
             int at = state;
-            for (int behind = pathLength(state) - 1; behind > i; behind--) {
+            for (int behind = pathLength[state] - 1; behind > i; behind--) {
                 at = cameFrom[at];
             }
             return cameBy[at];

@@ -35,6 +35,19 @@ final class Grammars {
         "S=ESa;E=;S=", // lost by the row of states, by reductions
         "S=EEEEB;B=aS;B=b;E=", // lost by the row of states, by a shift
         "S=SA;S=;A=BBBBC;C=BBBBD;D=BBa;B=", // lost by steps
+        // weak merging that goes another way, did it not look first at the state it went to up to now
+        "A=aCa;B=aaA;C=aB;D=;A=C", "A=BBa;B=bbA;B=b;A=ab;A=bBa;A=aAb", "A=baD;B=aBa;C=Aa;D=bbD;A=bCb;D=C;C=a",
+        "A=c;B=Bb;A=cAc;B=Aa;A=ab;B=aB;A=Bb;A=;A=aBcaB",
+        // weak merging by looks that cross one way only, or that have something in common in one state already
+        "A=BCA;B=a;C=CB;B=BC;C=;C=d;A=cdCAd", "A=BBA;B=a;A=ab;A=ab;B=a;A=a;A=b;A=aB;A=aAb", "A=BAb;B=AaB;B=c;A=b",
+        "A=c;B=bA;B=BbA;A=BA;A=b", "A=A;B=;C=d;B=abA;C=AA;B=Acac;A=bCCc",
+        // words that one automaton takes and another does not: of no sign, one, and so on
+        "A=BB;B=CcaC;C=BA;C=B;B=;A=A;A=A;C=AA;C=Bbb", "A=aaa;B=aaaC;C=;C=Ba;A=A;B=;B=CC;A=CCB",
+        "A=BacBA;B=BA;A=;A=cA;A=aB;B=AA;A=b;B=cba", "A=AA;B=b;A=Aba;B=;A=B;A=bAa;B=;A=bbB", "A=b;B=aBbab;A=;A=bAaA;B=ab",
+        "A=bb;B=Ba;B=A;A=;A=bB;A=bc", "A=;B=Ad;B=a;B=aBc;B=;A=dB", "A=;B=;A=bBB;A=Bca;A=Bbb;B=aA",
+        "A=aB;B=aaD;C=;D=;D=a;A=B;A=;B=bB;B=bAb;A=", "A=Bc;B=Bc;A=bB;B=aBBBc;B=cc;B=bAa;B=;B=bAc;A=B",
+        "A=Bcaa;B=a;C=Ca;B=;C=cBB;B=BC;C=BA;A=b;C=cB;B=b;B=", "A=cB;B=BA;B=BAa;B=;B=cBd;A=;B=dc;A=AA",
+        "A=bCbCC;B=b;C=;B=C;A=;C=AAa;B=A", "A=Bc;B=;B=;B=ABa;B=ccB;A=cc;B=;A=bccBa;A=Ab;B=AB",
     };
 
     /** Text of rules that hold together, most of the time. */

@@ -65,6 +65,14 @@ public final class PromisesTest {
         MinimalTables x = new MinimalTables();
         due(2, "bytes of 0 left out", x.feed(0x00530000, 0x3D, 0, 0, 0x61006200), 4);
         due(2, "the highest first: S=ab", x.fault(0), NONE);
+        MinimalTables y = new MinimalTables();
+        for (int i = 1; i <= 11; i++) {
+            y.feed(-1, -1, -1, -1, -1);
+        }
+        y.feed(-1, -1, -1, -1, 0);
+        due(2, "five more, of all five numbers, are too many", y.feed(1, 1, 1, 1, 1), NONE);
+        due(2, "still 236", y.count(4), 236);
+        due(2, "four more", y.feed(1, 1, 0, 1, 1), 240);
         x.end(0);
         for (int i = 1; i <= 11; i++) {
             due(2, "twenty more", x.feed(-1, -1, -1, -1, -1), 20 * i);
@@ -132,6 +140,9 @@ public final class PromisesTest {
         grammarFault("S=abcde;S=fgh", NONE);
         grammarFault("S=abcde;S=fghi", 13);
         grammarFault("S=abcde;S=fghaa", NONE);
+        grammarFault("S=bcdef;S=ghi", NONE);
+        grammarFault("Z=azA;A=Z", NONE);
+        grammarFault("Y=;X=;W=;V=;U=;T=;Z=", 18);
         grammarFault("A=BCDEF;B=;C=;D=;E=;F=", NONE);
         grammarFault("A=BCDEF;G=", 8);
         grammarFault("A=BCDEF;A=G", 10);
@@ -281,6 +292,11 @@ public final class PromisesTest {
         due(9, "SHORTEST of S then", x.name(0, 3), 2);
         MinimalTables y = with("S=AAAAA;A=BBBBB;B=CCCCC;C=DDDDD;D=EEEEE;E=aaaaa");
         due(9, "5 to the 6th", y.name(0, 3), 15625);
+        // each RULE is of use to FOLLOW only when the one behind it was: signs a c, END 4
+        MinimalTables z = with("S=aA;C=c;D=C;B=D;A=B");
+        due(9, "FOLLOW of C, by four RULES", z.name(1, 2), 4);
+        due(9, "FIRST of A, by three", z.name(4, 1), 2);
+        due(9, "SHORTEST of S, by four", z.name(0, 3), 2);
     }
 
     private static void treesCounted() {
@@ -393,6 +409,32 @@ public final class PromisesTest {
         due(14, "none", x.undo(), NONE);
         due(14, "what was done ahead of the forty stays", x.rule(0, 2), 0);
         due(14, "what was undone", x.rule(1, 2), 1);
+        // sixty ACTS, all unlike those near them: the latest forty undone leave the first twenty
+        MinimalTables y = with("S=a;S=b;S=c;S=d;S=e;S=f;S=g");
+        for (int i = 0; i < 60; i++) {
+            int rule = i * i % 7;
+            if (i % 3 == 2) {
+                y.prefer(rule);
+            } else {
+                y.toggle(rule);
+            }
+        }
+        while (y.undo() > 0) {
+            due(14, "less than forty", y.count(6) < 40, true);
+        }
+        int[] in = {1, 1, 1, 1, 1, 1, 1};
+        int[] prefers = new int[7];
+        for (int i = 0; i < 20; i++) {
+            if (i % 3 == 2) {
+                prefers[i * i % 7] ^= 1;
+            } else {
+                in[i * i % 7] ^= 1;
+            }
+        }
+        for (int i = 0; i < 7; i++) {
+            due(14, "RULE " + i, y.rule(i, 2), in[i]);
+            due(14, "SIGN " + i + " the other way round", y.prefer(i), 1 - prefers[i]);
+        }
     }
 
     private static void statesCounted() {
@@ -420,6 +462,12 @@ public final class PromisesTest {
             z.toggle(rule);
         }
         due(15, "there, with one RULE", z.states(1) > 0, true);
+        MinimalTables w = with("A=aCa;B=aaA;C=aB;D=;A=C");
+        due(15, "WEAK: first that to which it went up to now", w.states(1), 17);
+        MinimalTables v = with("A=BCA;B=a;C=CB;B=BC;C=;C=d;A=cdCAd");
+        due(15, "WEAK: LOOKS that cross one way are enough", v.states(1), 14);
+        MinimalTables u = with("A=BAb;B=AaB;B=c;A=b");
+        due(15, "WEAK: LOOKS with something in common in the one", u.states(1), 10);
     }
 
     private static void looks() {
@@ -474,6 +522,9 @@ public final class PromisesTest {
         MinimalTables z = with("S=S;S=a");
         due(17, "ACCEPT and REDUCE are a CONFLICT", z.state(0, stateIn(z, 0, 100), 4), 2);
         due(17, "no ACTION reduces: no DEFAULT", z.state(0, stateIn(z, 0, 100), 3), NONE);
+        MinimalTables w = with("S=aS;S=bS;S=cS;S=dS;S=eS;S=fS;S=gS;S=hS;S=");
+        due(17, "eight SIGNS and no CONFLICT", w.state(0, 0, 4), 0);
+        due(17, "eight SIGNS and START", w.state(0, 0, 2), 9);
     }
 
     private static void going() {
@@ -492,6 +543,8 @@ public final class PromisesTest {
         due(18, "no such letter", x.goesTo(0, 0, Integer.MAX_VALUE), NONE);
         due(18, "no such STATE", x.goesTo(0, x.states(0), 0), NONE);
         due(18, "no such AUTOMATON", x.goesTo(3, 0, 0), NONE);
+        MinimalTables y = with("S=aS;S=bS;S=cS;S=dS;S=eS;S=fS;S=gS;S=hS;S=");
+        due(18, "END behind eight SIGNS is no letter", y.goesTo(0, 0, 8), NONE);
     }
 
     private static void acting() {
@@ -657,6 +710,10 @@ public final class PromisesTest {
         due(25, "a", w.expects(0, 0), 1);
         w.prefer(0);
         due(25, "a would be LOST", w.expects(0, 0), 0);
+        // END would take 299 reductions, and is ACCEPTED as the 300th; or some more, and is LOST
+        String a15 = "aaaaaaaaaaaaaaaz";
+        due(25, "300 ACTIONS anew", with("S=aAEE;A=BEEEE;B=CEEEE;C=DEEEE;D=SE;D=;E=", a15).expects(0, 0), 3);
+        due(25, "more than 300", with("S=aAEEE;A=BEEEE;B=CEEEE;C=DEEEE;D=SE;D=;E=", a15).expects(0, 0), 1);
     }
 
     private static void mending() {
@@ -679,6 +736,8 @@ public final class PromisesTest {
         due(26, "behind the last: the 24th", v.mends(0, 0), 2321);
         MinimalTables w = with("S=aab", "ab");
         due(26, "the same SIGN ahead of itself", w.mends(0, 0), 20);
+        MinimalTables t = with("S=babaT;T=babaU;U=babaV;V=babaW;W=babaX;X=baba", "abababababababababababab");
+        due(26, "24: none is put in, and none falls out behind", t.mends(0, 0), NONE);
     }
 
     private static void treesBuilt(MinimalTables x, int i, int size, int ahead, int high) {
@@ -736,6 +795,12 @@ public final class PromisesTest {
         due(29, "no such AUTOMATON", x.same(3, 0, 3), NONE);
         due(29, "no such AUTOMATON", x.same(0, -1, 3), NONE);
         due(29, "not there", with(PLAIN_201).same(0, 1, 3), NONE);
+        MinimalTables y = with("A=aaa;B=aaaC;C=;C=Ba;A=A;B=;B=CC;A=CCB");
+        due(29, "the word of no SIGN", y.same(0, 2, 0), 0);
+        due(29, "the word of no SIGN is the first", y.same(0, 2, 4), 0);
+        due(29, "bcca", with("A=Bc;B=Bc;A=bB;B=aBBBc;B=cc;B=bAa;B=;B=bAc;A=B").same(0, 2, 4), 2331);
+        due(29, "baca", with("A=;B=;A=bBB;A=Bca;A=Bbb;B=aA").same(0, 2, 4), 2131);
+        due(29, "no SIGNS", with("S=A;A=").same(0, 2, 4), NONE);
     }
 
     private static void words() {
@@ -765,6 +830,11 @@ public final class PromisesTest {
         MinimalTables w = with("S=SSSSS;S=SSSSS;S=SSSSS;S=SSSSS;S=SSSSS;S=SSSSS;S=SSSSS;S=SSSSS;S=SSSSS;S=SSSSS;"
             + "S=SSSSS;S=SSSSS;S=SSSSS;S=SSSSS;S=SSSSS;S=aaaaa");
         due(30, "more than 60 letters", w.word(1, NONE), NONE);
+        due(30, "one RULE", with("S=ab").word(7, NONE), 2);
+        due(30, "just 60", with("S=TTTTT;T=UUUU;U=aaa").word(7, NONE), 60);
+        due(30, "61", with("S=TTTTV;T=UUUU;U=aaa;V=UUUUW;W=a").word(7, NONE), NONE);
+        due(30, "200 times", with("S=TTTTX;T=UUUU;U=VVVVV;V=W;W=;X=UVVVW").word(7, NONE), 0);
+        due(30, "201 times", with("S=TTTTX;T=UUUU;U=VVVVV;V=W;W=;X=UVVVV").word(7, NONE), NONE);
     }
 
     private static void keeping() {
