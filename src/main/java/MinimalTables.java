@@ -1115,7 +1115,7 @@ public final class MinimalTables {
             useful = 1 | reached[0];
         }
 
-        /** By NAMES: which NAMES stand in what comes from it by one RULE or more (at its beginning alone, or anywhere). */
+        /** By NAMES: NAMES that stand in what comes from it by one RULE or more (at the beginning alone, or anywhere). */
         private void findReached(boolean beginning) {
             Arrays.fill(reached, 0);
             for (int rule = 0; rule < grammar.rules; rule++) {
@@ -1940,7 +1940,7 @@ public final class MinimalTables {
             return number;
         }
 
-        /** The first input of this length, by the alphabet, behind all that begin alike up to that place: whether there is one. */
+        /** The first input by the alphabet behind all that begin alike up to that place: whether there is one. */
         boolean nextInput(int place) {
             for (int i = place + 1; i < length; i++) {
                 input[i] = 0;

@@ -376,6 +376,9 @@ public final class PromisesTest {
         due(13, "no such one", x.prefer(4), NONE);
         due(13, "no such one", x.prefer(-1), NONE);
         due(13, "three ACTS", x.count(6), 3);
+        MinimalTables y = with("S=a");
+        due(13, "one RULE: a", y.prefer(0), 1);
+        due(13, "one RULE: END", y.prefer(1), 1);
     }
 
     /** The state to which these letters lead. */
@@ -568,6 +571,9 @@ public final class PromisesTest {
         due(19, "ACCEPT goes first, whatever END prefers", y.action(0, stateIn(y, 0, 100), 1, false), 999);
         MinimalTables z = with("S=aSb;S=");
         due(19, "a RULE without letters", z.action(2, stateIn(z, 2, 0), 1, false), 1);
+        MinimalTables w = with("S=a");
+        due(19, "one RULE", w.action(0, 0, 0, false), 1001);
+        due(19, "one RULE, END", w.action(0, 1, 1, false), 0);
     }
 
     private static void bridging() {
@@ -798,6 +804,7 @@ public final class PromisesTest {
         MinimalTables y = with("A=aaa;B=aaaC;C=;C=Ba;A=A;B=;B=CC;A=CCB");
         due(29, "the word of no SIGN", y.same(0, 2, 0), 0);
         due(29, "the word of no SIGN is the first", y.same(0, 2, 4), 0);
+        due(29, "one SIGN: aaa", with("A=a;B=AB;A=AaB;B=aA;A=Aaa").same(0, 2, 4), 111);
         due(29, "bcca", with("A=Bc;B=Bc;A=bB;B=aBBBc;B=cc;B=bAa;B=;B=bAc;A=B").same(0, 2, 4), 2331);
         due(29, "baca", with("A=;B=;A=bBB;A=Bca;A=Bbb;B=aA").same(0, 2, 4), 2131);
         due(29, "no SIGNS", with("S=A;A=").same(0, 2, 4), NONE);
