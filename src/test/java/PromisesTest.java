@@ -1,6 +1,9 @@
 import java.util.NoSuchElementException;
 
-/** For each promise: ordinary inputs, the edges that the document names, and wrong inputs, with answers found by hand. */
+/**
+ * For each promise: ordinary inputs, the edges that the document names, and wrong inputs. The answers were found by hand,
+ * but for how many STATES WEAK has and some words of SAME: these are the Oracle's.
+ */
 public final class PromisesTest {
     private static final int NONE = -1;
     private static final int HIDDEN = -1000000;
