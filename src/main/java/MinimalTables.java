@@ -571,7 +571,7 @@ public final class MinimalTables {
             return NONE;
         }
         for (int length = 0; length <= m; length++) {
-            int found = firstUnlike(actionsOf(one), actionsOf(other), length);
+            int found = firstByOneAlone(actionsOf(one), actionsOf(other), length);
             if (found != NONE) {
                 return found;
             }
@@ -579,8 +579,8 @@ public final class MinimalTables {
         return NONE;
     }
 
-    /** The first word of that length that ends well by just one of the two, as a number; NONE: none. */
-    private int firstUnlike(Actions first, Actions second, int length) {
+    /** The first word of that length that ends well by the one and not by the other, as a number; NONE: none. */
+    private int firstByOneAlone(Actions one, Actions other, int length) {
         if (length > 0 && grammar.signs == 0) {
             return NONE;
         }
@@ -590,15 +590,16 @@ public final class MinimalTables {
         }
         boolean more = true;
         for (int turn = 0; more && turn < TURNS_MOST; turn++) {
-            reading.run(first, BARE);
-            boolean well = reading.ends == WELL;
-            int read = reading.read;
-            reading.run(second, BARE);
-            if (well != (reading.ends == WELL)) {
-                return reading.inputAsNumber();
+            reading.run(one, BARE);
+            // Words that begin alike, up to the sign at which this one fails, all fail: they are passed over.
+            int place = reading.read;
+            if (reading.ends == WELL) {
+                reading.run(other, BARE);
+                if (reading.ends != WELL) {
+                    return reading.inputAsNumber();
+                }
+                place = length;
             }
-            // Words that begin alike, up to the sign at which both fail, all fail: they are passed over.
-            int place = well ? length : Math.max(read, reading.read);
             more = reading.nextInput(Math.min(place, length - 1));
         }
         return NONE;

@@ -1095,7 +1095,7 @@ final class Oracle {
         for (int length = 0; length <= m; length++) {
             List<List<Integer>> longer = new ArrayList<>();
             for (List<Integer> word : words) {
-                if (well(a, word) != well(b, word)) {
+                if (well(a, word) && !well(b, word)) {
                     StringBuilder digits = new StringBuilder("0");
                     word.forEach(sign -> digits.append(sign + 1));
                     return Integer.parseInt(digits.toString());

@@ -795,7 +795,9 @@ public final class PromisesTest {
         MinimalTables x = with(SPLIT);
         due(29, "ace ends well by PLAIN alone", x.same(0, 2, 3), 135);
         due(29, "up to 4", x.same(1, 2, 4), 135);
-        due(29, "the other way round", x.same(2, 0, 3), 135);
+        due(29, "none by JOINED and not by PLAIN", x.same(2, 0, 3), NONE);
+        due(29, "nor of 4", x.same(2, 0, 4), NONE);
+        due(29, "none by JOINED and not by WEAK", x.same(2, 1, 4), NONE);
         due(29, "none so short", x.same(0, 2, 2), NONE);
         due(29, "alike", x.same(0, 1, 4), NONE);
         due(29, "itself", x.same(2, 2, 4), NONE);
@@ -807,6 +809,11 @@ public final class PromisesTest {
         MinimalTables y = with("A=aaa;B=aaaC;C=;C=Ba;A=A;B=;B=CC;A=CCB");
         due(29, "the word of no SIGN", y.same(0, 2, 0), 0);
         due(29, "the word of no SIGN is the first", y.same(0, 2, 4), 0);
+        due(29, "not by JOINED alone", y.same(2, 0, 0), NONE);
+        due(29, "nor another word", y.same(2, 0, 4), NONE);
+        MinimalTables z = with("A=;B=;B=BBcAA;A=;A=BA;B=a");
+        due(29, "c ends well by PLAIN and not by WEAK", z.same(0, 1, 4), 2);
+        due(29, "none by WEAK and not by PLAIN", z.same(1, 0, 4), NONE);
         due(29, "one SIGN: aaa", with("A=a;B=AB;A=AaB;B=aA;A=Aaa").same(0, 2, 4), 111);
         due(29, "bcca", with("A=Bc;B=Bc;A=bB;B=aBBBc;B=cc;B=bAa;B=;B=bAc;A=B").same(0, 2, 4), 2331);
         due(29, "baca", with("A=;B=;A=bBB;A=Bca;A=Bbb;B=aA").same(0, 2, 4), 2131);
