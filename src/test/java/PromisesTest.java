@@ -1,12 +1,8 @@
-import java.util.NoSuchElementException;
-
 /**
  * For each promise: ordinary inputs, the edges that the document names, and wrong inputs. The answers were found by hand,
  * but for how many STATES WEAK has and some words of SAME: these are the Oracle's.
  */
-public final class PromisesTest {
-    private static final int NONE = -1;
-    private static final int HIDDEN = -1000000;
+public final class PromisesTest extends Answers {
     private static final String SPLIT = "S=aAd;S=bBd;S=aBe;S=bAe;A=c;B=c";
     private static final String SUMS = "E=EpT;E=T;T=TmF;T=F;F=lEr;F=i"; // signs i l m p r
     private static final String DANGLING = "S=iSeS;S=iS;S=a"; // signs a e i
@@ -16,37 +12,13 @@ public final class PromisesTest {
     private static final String PLAIN_201 = "A=AcAB;B=daA;A=bB;B=Ac;B=bAda;B=;A=aBA;B=dAaAc";
     private static final String NONE_THERE = "A=bbEC;B=AaDab;C=abbbF;D=abBbC;E=bCBAb;F=aBCD;B=babF;C=bbAA;D=bbaEE;"
         + "F=aFbb;B=aDbb;D=CBEa;C=CabDb;B=abbDa;F=bbabb;A=abEb";
-    private static int wrong = 0;
-    private static int checks = 0;
 
     private static void due(int promise, String what, long got, long want) {
-        checks++;
-        if (got != want) {
-            wrong++;
-            System.out.println("promise " + promise + ": " + what + " answered " + got + ", due is " + want);
-        }
+        due("promise " + promise + ": " + what, got, want);
     }
 
     private static void due(int promise, String what, boolean got, boolean want) {
-        due(promise, what, got ? 1 : 0, want ? 1 : 0);
-    }
-
-    /** An object with that grammar and those sentences. */
-    private static MinimalTables with(String grammar, String... sentences) {
-        MinimalTables x = new MinimalTables();
-        Grammars.feed(x, grammar);
-        x.text(0);
-        for (String sentence : sentences) {
-            Grammars.feed(x, sentence);
-            x.text(1);
-        }
-        return x;
-    }
-
-    private static MinimalTables taped(String text) {
-        MinimalTables x = new MinimalTables();
-        Grammars.feed(x, text);
-        return x;
+        due("promise " + promise + ": " + what, got, want);
     }
 
     private static void newObject() {
@@ -198,15 +170,6 @@ public final class PromisesTest {
         due(5, "no IMAGE", x.back(), NONE);
         due(5, "no SIGN PREFERS: it does from now on", x.prefer(0), 1);
         due(5, "SENTENCES stay", x.count(3), 4);
-    }
-
-    private static boolean ruleThrows(MinimalTables x, int rule, int what) {
-        try {
-            x.rule(rule, what);
-            return false;
-        } catch (NoSuchElementException e) {
-            return true;
-        }
     }
 
     private static void rules() {
@@ -382,15 +345,6 @@ public final class PromisesTest {
         MinimalTables y = with("S=a");
         due(13, "one RULE: a", y.prefer(0), 1);
         due(13, "one RULE: END", y.prefer(1), 1);
-    }
-
-    /** The state to which these letters lead. */
-    private static int stateIn(MinimalTables x, int kind, int... letters) {
-        int state = 0;
-        for (int letter : letters) {
-            state = x.goesTo(kind, state, letter);
-        }
-        return state;
     }
 
     private static void undoing() {
@@ -969,9 +923,6 @@ public final class PromisesTest {
         imaging();
         goingBack();
         counts();
-        System.out.println(checks + " answers looked at, " + wrong + " wrong");
-        if (wrong != 0) {
-            System.exit(1);
-        }
+        tellAll();
     }
 }
