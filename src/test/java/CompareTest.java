@@ -12,7 +12,7 @@ public final class CompareTest {
     private final MinimalTables x = new MinimalTables();
     private final Oracle y = new Oracle();
     private final StringBuilder history = new StringBuilder();
-    private int left = 500;
+    private int left = 512;
 
     private CompareTest(long seed) {
         random = new Random(seed);
@@ -70,6 +70,10 @@ public final class CompareTest {
             } else {
                 callOne();
             }
+        }
+        // up to the last call that an object is used for
+        while (left > 0) {
+            callOne();
         }
     }
 
