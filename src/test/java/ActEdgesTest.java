@@ -165,6 +165,9 @@ public final class ActEdgesTest extends Answers {
         due("f d e", y.same(0, 2, 4), 645);
         // and for B always: fdh and gde are not read
         due("f d h", with("S=gBh;S=fAh;S=gAe;S=fBe;B=d;A=d;S=abc").same(0, 2, 4), 648);
+        // ad begins words as ac does; of adf and bde the first by the alphabet is told
+        due("a d f", with("S=aAe;S=aBf;S=bBe;S=bAf;A=d;B=d;S=acc").same(0, 2, 3), 146);
+        due("b d e: a d f is read by both", with("S=aAe;S=aAf;S=bBe;S=bAf;S=cAe;S=cBf;A=d;B=d;S=acc").same(0, 2, 3), 245);
         MinimalTables z = with("S=A;A=");
         due("no SIGNS: the empty word alone, and it is read by both", z.same(0, 2, 4), NONE);
     }
@@ -181,16 +184,20 @@ public final class ActEdgesTest extends Answers {
         return result;
     }
 
-    /** The first seed by which so many draws of 2 tell 0, and the next one that. */
     private static long seedOf(int zeros, int then) {
+        return seedOf(0, zeros, then);
+    }
+
+    /** The first seed by which so many draws of 2 tell the one, and the next one the other. */
+    private static long seedOf(int one, int times, int then) {
         for (long seed = 0; seed < 1000000; seed++) {
-            if (draws(seed, 2, 1)[0] == 0) {
-                int[] all = draws(seed, 2, zeros + 1);
+            if (draws(seed, 2, 1)[0] == one) {
+                int[] all = draws(seed, 2, times + 1);
                 int first = 0;
-                while (first < zeros && all[first] == 0) {
+                while (first < times && all[first] == one) {
                     first++;
                 }
-                if (first == zeros && all[zeros] == then) {
+                if (first == times && all[times] == then) {
                     return seed;
                 }
             }
@@ -210,6 +217,9 @@ public final class ActEdgesTest extends Answers {
         due("a", x.word(seed, 11), 0);
         due("b", x.word(seed, 12), 1);
         due("none behind", x.word(seed, 13), NONE);
+        MinimalTables y = with("S=b;S=aS");
+        due("the RULE 0 is least behind twelve", y.word(seedOf(1, 13, 1), NONE), 13);
+        due("the twelfth is drawn", y.word(seedOf(1, 11, 0), NONE), 12);
         // one RULE is drawn of, too: so x goes on
         for (long s = 0; s < 40; s++) {
             due("the second draw tells", with("S=T;T=a;T=bb").word(s, NONE), draws(s, 2, 2)[1] + 1);

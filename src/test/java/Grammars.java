@@ -41,6 +41,8 @@ final class Grammars {
         // weak merging by looks that cross one way only, or that have something in common in one state already
         "A=BCA;B=a;C=CB;B=BC;C=;C=d;A=cdCAd", "A=BBA;B=a;A=ab;A=ab;B=a;A=a;A=b;A=aB;A=aAb", "A=BAb;B=AaB;B=c;A=b",
         "A=c;B=bA;B=BbA;A=BA;A=b", "A=A;B=;C=d;B=abA;C=AA;B=Acac;A=bCCc",
+        // weak merging that leaves states behind, that comes again to a state in the queue, that has several to choose from
+        "A=bbAaB;B=ba;B=AAB;B=;B=bB", "A=BB;B=CBC;C=BAbBA;B=c", "A=AAcB;B=a;B=AB", "A=aB;B=Ab;B=c;A=cBAa;A=cA",
         // words that one automaton takes and another does not: of no sign, one, and so on
         "A=BB;B=CcaC;C=BA;C=B;B=;A=A;A=A;C=AA;C=Bbb", "A=aaa;B=aaaC;C=;C=Ba;A=A;B=;B=CC;A=CCB",
         "A=BacBA;B=BA;A=;A=cA;A=aB;B=AA;A=b;B=cba", "A=AA;B=b;A=Aba;B=;A=B;A=bAa;B=;A=bbB", "A=b;B=aBbab;A=;A=bAaA;B=ab",

@@ -42,6 +42,19 @@ public final class NameEdgesTest extends Answers {
         x.toggle(1);
         due("nothing comes from it now", x.name(0, 0), 1);
         due("BACK to none IN", x.back(), 0);
+        due("nothing comes from it not any more", x.name(0, 0), 0);
+        MinimalTables y = with("S=Sa;S=");
+        y.toggle(0);
+        due("EMPTY by the last one IN", y.names(2), 1);
+        y.toggle(1);
+        due("not EMPTY by none", y.names(2), 0);
+        due("SHORTEST by none", y.name(0, 3), NONE);
+        due("TREES by none", y.trees(0, 0, 1), 0);
+        MinimalTables z = with("S=;S=Sa");
+        z.toggle(0);
+        due("LEFT, FIRST and FOLLOW by the last one IN", z.names(0) * 100 + z.name(0, 1) * 10 + z.name(0, 2), 103);
+        z.toggle(1);
+        due("by none", z.names(0) * 100 + z.name(0, 1) * 10 + z.name(0, 2), 2);
     }
 
     // "EMPTY: a NAME from which nothing at all can come (by RULES all of whose letters are EMPTY NAMES)"
@@ -113,6 +126,8 @@ public final class NameEdgesTest extends Answers {
         due("and not to a NAME above", z.name(1, 2), 0);
         MinimalTables w = with("A=B;B=C;C=D;D=E;E=F;F=f;F=Ff");
         due("down to the sixth", w.name(5, 2), 1 + 2);
+        MinimalTables v = with("A=;B=A;C=BaC"); // sign a, END
+        due("what comes later to the NAME above", v.name(0, 2), 1 + 2);
         MinimalTables eight = with("S=aS;S=bS;S=cS;S=dS;S=eS;S=fS;S=gS;S=hS;S=;S=SS");
         due("eight SIGNS and END", eight.name(0, 2), 511);
         due("eight SIGNS", eight.name(0, 1), 255);
@@ -187,6 +202,9 @@ public final class NameEdgesTest extends Answers {
         due("eight SIGNS", w.trees(0, 8, 2), 1);
         due("seven", w.trees(0, 7, 2), 1);
         due("six", w.trees(0, 6, 2), 0);
+        MinimalTables v = with("S=TU;T=aaaaV;V=aaaa;U=");
+        due("eight SIGNS, and nothing behind", v.trees(0, 8, 3), 1);
+        due("eight SIGNS of V and none of W", with("S=WV;V=aaaaU;U=aaaa;W=").trees(0, 8, 3), 1);
         due("two RULES alike count twice", with("S=a;S=a").trees(0, 1, 1), 2);
     }
 

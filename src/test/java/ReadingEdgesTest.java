@@ -159,6 +159,7 @@ public final class ReadingEdgesTest extends Answers {
         mends("rising", "S=c;S=b", "a", 1);
         mends("the second SIGN in its place", "S=bb;S=ba", "aa", 2);
         mends("then put in ahead", "S=bca", "ca", 21);
+        mends("put in ahead: the SIGN that is there", "S=aab", "ab", 20);
         mends("put in ahead: the last of eight", "S=ha;S=bcdef;S=ghh", "a", 27);
         mends("in its place: the last of eight", "S=hah;S=bcdef;S=ghh", "aah", 8);
         mends("place 0 ahead of place 1", "S=ab;S=bb;S=ac", "cb", 1);
@@ -184,6 +185,8 @@ public final class ReadingEdgesTest extends Answers {
         mends("24: another in place of the last", chain + "F=aaab", a(24), 2302);
         mends("24: none put in behind", chain + "F=aaaab", a(24), NONE);
         mends("24: none put in ahead", "A=baaaB;B=aaaaC;C=aaaaD;D=aaaaE;E=aaaaF;F=aaaaa", a(24), NONE);
+        mends("24: none put in ahead, none falls off behind", "A=bcaaB;" + chain.substring(8) + "F=aaaa", "c" + a(23), NONE);
+        mends("23: put in ahead of c", "A=bcaaB;" + chain.substring(8) + "F=aaaa", "c" + a(22), 21);
         mends("23: put in behind", chain + "F=aaab", a(23), 2321);
         mends("23: put in ahead", "A=baaaB;B=aaaaC;C=aaaaD;D=aaaaE;E=aaaaF;F=aaaa", a(23), 21);
         mends("23: 25 would be needed", chain + "F=aaaaa", a(23), NONE);

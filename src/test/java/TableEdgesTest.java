@@ -42,6 +42,23 @@ public final class TableEdgesTest extends Answers {
         }
     }
 
+    // "CLOSURE of ITEMS: the least in which, for each ITEM whose DOT stands ahead of a NAME and each RULE of that (IN) ..":
+    // as often as anything comes to it, whatever the order of RULES.
+    private static void closureGoesOn() {
+        MinimalTables x = with("S=F;B=b;C=B;D=C;E=D;F=E"); // sign b, END
+        for (int kind = 0; kind < 3; kind++) {
+            for (int rule = 0; rule < 6; rule++) {
+                due("RULE " + rule + " is in the first CLOSURE", x.look(kind, 0, rule, 0, true), 2);
+            }
+            due("seven ITEMS", x.state(kind, 0, 1), 7);
+        }
+        x.toggle(3);
+        due("not over a RULE OUT", x.look(0, 0, 2, 0, true), 0);
+        due("as far as that", x.look(0, 0, 4, 0, true), 2);
+        MinimalTables y = with("S=Fa;S=F;B=b;C=B;D=C;E=D;F=E;F=Fb"); // signs a b, END
+        due("LOOKS, too: all the way down", y.look(0, 0, 2, 0, true), 7);
+    }
+
     // "ITEMS: a RULE and a DOT (0 .. its length ..); besides, the OUTER RULE, whose number is how many RULES are told"
     private static void looksInBounds() {
         MinimalTables x = with("S=abcde;".repeat(15) + "S=abcde"); // END 32
@@ -132,8 +149,18 @@ public final class TableEdgesTest extends Answers {
                 y.undo();
             }
             due("with all RULES it is not, again", y.states(kind), NONE);
+            Grammars.feed(y, inside[kind]);
+            y.text(0);
+            due("by another GRAMMAR it has 200", y.states(kind), 200);
         }
         due("200 arose, four of them are none at the end", with(ARISE_200).states(1), 196);
+        MinimalTables z = with(PLAIN_201);
+        due("201 would be", z.states(0), NONE);
+        z.toggle(1);
+        MinimalTables fresh = with(PLAIN_201);
+        fresh.toggle(1);
+        due("there with a RULE less", z.states(0), fresh.states(0));
+        due("as many as there are without that RULE", z.states(0), with(PLAIN_201.replace("B=daA;", "")).states(0));
         notThere(with(ARISE_201, "a"), 1);
     }
 
@@ -257,6 +284,66 @@ public final class TableEdgesTest extends Answers {
         due("PLAIN: behind a", x.look(0, stateIn(x, 0, 0, 2, 5, 6), 4, 1, false), 8);
         due("PLAIN: behind b", x.look(0, stateIn(x, 0, 1, 2, 5, 6), 4, 1, false), 16);
         due("PLAIN: five CORES are split", x.counts(0, 2), 5);
+    }
+
+    // "any more by that, it comes to the end of the queue, if it is not in it"; "those that are not come to are none";
+    // "the others rising: the first with which NEXT is WEAKLY COMPATIBLE": found by a search, the Oracle agrees.
+    private static void queueOfWeak() {
+        due("not twice in the queue", with("A=BB;B=CBC;C=BAbBA;B=c").states(1), 13);
+        due("the first of several that would do", with("A=AAcB;B=a;B=AB").states(1), 10);
+        MinimalTables x = with("A=bbAaB;B=ba;B=AAB;B=;B=bB");
+        due("what is not come to is no STATE of its CORE: as many as JOINED has", x.states(1), x.states(2));
+        due("SPLIT", x.counts(1, 2), 0);
+        due("MOST", x.counts(1, 3), 1);
+        int items = 0;
+        for (int state = 0; state < x.states(1); state++) {
+            items += x.state(1, state, 0);
+        }
+        due("ITEMS of KERNELS of those that are come to", x.counts(1, 4), items);
+    }
+
+    // "counts: How many CONFLICTS (0: of all STATES, each SIGN for itself), STATES with some (1) .., ACTIONS that are not
+    // NONE (5), STATES with a DEFAULT (6)": from STATE 0 to the last one, and none of the GRAMMAR ahead.
+    private static void countsOfStates() {
+        MinimalTables x = with("S=SS;S=a;S=");
+        x.prefer(0);
+        for (int kind = 0; kind < 3; kind++) {
+            due("STATE 2 has a CONFLICT", x.state(kind, 2, 4) != 0, true);
+            due("STATE 2 has a DEFAULT", x.state(kind, 2, 3) >= 0, true);
+            due("CONFLICTS", x.counts(kind, 0) > 2, true);
+        }
+        Grammars.feed(x, "S=;S=");
+        x.text(0);
+        for (int kind = 0; kind < 3; kind++) {
+            due("two STATES", x.states(kind), 2);
+            due("one CONFLICT, in STATE 0", x.counts(kind, 0), 1);
+            due("one STATE with it", x.counts(kind, 1), 1);
+            due("SPLIT", x.counts(kind, 2), 0);
+            due("MOST", x.counts(kind, 3), 1);
+            due("an ITEM in each KERNEL", x.counts(kind, 4), 2);
+            due("REDUCE, ACCEPT", x.counts(kind, 5), 2);
+            due("STATE 0 has a DEFAULT", x.counts(kind, 6), 1);
+        }
+    }
+
+    // "More than one: a CONFLICT.": by each SIGN for itself, of any two of several RULES.
+    private static void conflictsOfThree() {
+        String[] grammars = {"S=aAd;S=aBd;S=aCe", "S=aAd;S=aBe;S=aCd", "S=aAe;S=aBd;S=aCd"};
+        int[] lowest = {3, 3, 4};
+        for (int i = 0; i < 3; i++) {
+            MinimalTables x = with(grammars[i] + ";A=c;B=c;C=c"); // signs a c d e
+            for (int kind = 0; kind < 3; kind++) {
+                int c = stateIn(x, kind, 0, 1);
+                due("by d alone", x.state(kind, c, 4), 4);
+                due("the lowest", x.action(kind, c, 2, false), lowest[i]);
+                due("one in all", x.counts(kind, 0), 1);
+            }
+            due("SORTS: none", x.sorts(), 0);
+        }
+        MinimalTables y = with("S=aAd;S=aBd;S=aBe;S=aCe;A=c;B=c;C=c");
+        due("by d and by e", y.state(0, stateIn(y, 0, 0, 1), 4), 12);
+        due("two in all", y.counts(0, 0), 2);
+        due("in one STATE", y.counts(0, 1), 1);
     }
 
     // "More than one: a CONFLICT."; "ACCEPT goes first, then SHIFT (behind REDUCE, if that SIGN PREFERS to reduce), of
@@ -426,6 +513,7 @@ public final class TableEdgesTest extends Answers {
 
     public static void main(String[] args) {
         lookOfNone();
+        closureGoesOn();
         looksInBounds();
         states200();
         noSuchStates();
@@ -433,6 +521,9 @@ public final class TableEdgesTest extends Answers {
         numberedAnew();
         compatible();
         goneThroughAgain();
+        queueOfWeak();
+        countsOfStates();
+        conflictsOfThree();
         conflicts();
         defaults();
         bridges();

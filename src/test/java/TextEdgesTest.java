@@ -358,6 +358,9 @@ public final class TextEdgesTest extends Answers {
         x.end(3);
         due("taken", x.text(0), 1);
         due("one NAME, one SIGN", x.count(1) * 10 + x.count(2), 11);
+        due("one letter", x.rule(0, 1), 1);
+        due("z", x.letter(0, 0), 0);
+        due("none of the RULE that was there", x.letter(0, 1), NONE);
         due("all IN", x.count(5), 1);
         due("no ACT", x.count(6), 0);
         due("none UNDONE", x.undo(), NONE);
